@@ -638,7 +638,7 @@ public final class PathStream {
 
         /** Bit c is set if the element fulfils the condition c, whatever may still come. */
         int fulfilled(int e) {
-            return 1 | childNames[e] << 1 | digitSets[e] << 6;
+            return 1 | (childNames[e] << 1) | (digitSets[e] << 6);
         }
     }
 
@@ -690,14 +690,14 @@ public final class PathStream {
         }
 
         int bufferSize(Matcher matched) {
-            return Integer.bitCount(matched.doubts | matched.answers & ~outSet);
+            return Integer.bitCount(matched.doubts | (matched.answers & ~outSet));
         }
 
         /** Emits what the match allows now, and answers how many that are. */
         int emit(Matcher matched, int clock) {
             int firstDoubt = matched.doubts & -matched.doubts;
             // Without a doubt, firstDoubt is 0, and firstDoubt - 1 has every bit.
-            int ready = matched.answers & ~outSet & firstDoubt - 1;
+            int ready = matched.answers & ~outSet & (firstDoubt - 1);
             int emitted = 0;
             for (int e = 0; e < MOST_ELEMENTS && outCount < MOST_ELEMENTS; e++) {
                 if ((ready >> e & 1) != 0) {
@@ -823,7 +823,7 @@ public final class PathStream {
                     continue;
                 }
                 boolean deep = code >= 1000;
-                boolean fulfils = (fulfilled >> code % 100 & 1) != 0;
+                boolean fulfils = (fulfilled >> (code % 100) & 1) != 0;
                 boolean startsHere = i == 0 && (deep || e == 0);
                 int sureBefore = deep ? sureAround[e] : sureParent;
                 int possibleBefore = deep ? possibleAround[e] : possibleParent;
@@ -839,7 +839,7 @@ public final class PathStream {
         }
 
         private static boolean hasPrefix(int set, int length) {
-            return length > 0 && (set >> length - 1 & 1) != 0;
+            return length > 0 && (set >> (length - 1) & 1) != 0;
         }
 
         private void note(int e, int stepCount) {

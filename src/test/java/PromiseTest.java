@@ -230,6 +230,12 @@ public final class PromiseTest {
             x.ask(1, 1500);
         }
         due("about(6)", x.about(6), 14);
+        PathStream y = new PathStream();
+        y.ask(2, 100);
+        y.drop();
+        y.ask(1, 0);
+        y.ask(2, 100);
+        due("about(5) without what was dropped", y.about(5), 2);
         due("about(5)", on("Dq/a!b.q!b!b.q/a[=1].q/a[b].q/b.").about(5), 7);
     }
 
@@ -319,6 +325,9 @@ public final class PromiseTest {
             due("is(" + far + ", 0)", x.is(far, 0), UNKNOWN);
             due("is(0, " + far + ")", x.is(0, far), UNKNOWN);
         }
+        PathStream z = on("Dq!a[=1]/b.q!a[=1]!b.(a(c(b");
+        due("no child of an element in doubt", z.is(0, 2), 0);
+        due("descendant of an element in doubt", z.is(1, 2), 1);
         PathStream y = on("Dq!a[b].(a");
         due("open", y.is(0, 0), 1);
         y.close();
@@ -766,6 +775,11 @@ public final class PromiseTest {
         }
         PathStream x = on("Dq!*.(a)");
         due("drawn(30) after the end", x.drawn(30), 1);
+        PathStream y = on("Dq!*.q!*.q!*.q!*.q!*.(a");
+        y.open(1);
+        y.close();
+        y.close();
+        due("drawn(30) from the present state", y.drawn(30), 10);
         x.seed(77);
         due("drawn(0)", x.drawn(0), BAD);
         due("drawn(31)", x.drawn(31), BAD);
